@@ -477,8 +477,8 @@ public final class TreeDiffer {
 
     int childAt(int node, int at) {
       int end = endOf(node);
-      for (int child = node + 1; child < end; child += below[child] + 1) {
-        if (place[child] == at) {
+      for (int child = node + 1; child < end; child++) {
+        if (parent[child] == node && place[child] == at) {
           return child;
         }
       }
@@ -605,10 +605,10 @@ public final class TreeDiffer {
 
     private boolean takesDigit(int letter) {
       boolean isDue = state == AFTER_LABEL || state == AFTER_TENS;
-      if (letter < '0' || letter > '9' || !isDue) {
+      int last = tree.nodes - 1;
+      if (letter < '0' || letter > '9' || !isDue || last < 0) {
         return false;
       }
-      int last = tree.nodes - 1;
       tree.value[last] = 10 * tree.value[last] + letter - '0';
       state = state == AFTER_LABEL && letter != '0' ? AFTER_TENS : AFTER_VALUE;
       return true;
@@ -989,8 +989,9 @@ public final class TreeDiffer {
 
     private int placeFor(Tree second, int y) {
       int found = 0;
-      for (int v = second.parent[y] + 1; v < y; v += second.below[v] + 1) {
-        if (isMarked[v]) {
+      int above = second.parent[y];
+      for (int v = above + 1; v < y; v++) {
+        if (second.parent[v] == above && isMarked[v]) {
           found = copy.place[partner[v]] + 1;
         }
       }
@@ -1010,13 +1011,17 @@ public final class TreeDiffer {
     private int gatherChildren(Tree second, int y) {
       int many = 0;
       int end = second.endOf(y);
-      for (int v = y + 1; v < end; v += second.below[v] + 1) {
-        if (partner[v] != ABSENT && copy.parent[partner[v]] == partnerOf(y)) {
+      for (int v = y + 1; v < end; v++) {
+        if (second.parent[v] == y && isBelow(partner[v], partnerOf(y))) {
           sorted[many] = v;
           many++;
         }
       }
       return many;
+    }
+
+    private boolean isBelow(int room, int under) {
+      return room != ABSENT && copy.parent[room] == under;
     }
 
     private int placeOf(int y) {
