@@ -1,38 +1,23 @@
 import java.util.ArrayList;
+import java.util.Collections;
 import java.util.HashSet;
 import java.util.List;
 import java.util.Random;
 import java.util.Set;
 
 /** Promise 20 by its own words: the changes are tried out, breadth first, on small trees. */
-public final class DistanceTest {
-  private static int wrong = 0;
+public final class DistanceTest extends TestKit {
+  private static final int PAIRS = 300;
 
   public static void main(String[] args) {
     Random random = new Random(20);
-    int pairs = 300;
-    for (int i = 0; i < pairs; i++) {
+    for (int i = 0; i < PAIRS; i++) {
       String first = randomTree(random, 1 + random.nextInt(5));
       String second = randomTree(random, 1 + random.nextInt(5));
       int want = fewestChanges(first, second);
-      int got = distance(first, second);
-      if (got != want) {
-        wrong++;
-        System.out.println("distance of " + first + " and " + second + " answered " + got + ", due is " + want);
-      }
+      due(20, "distance of " + first + " and " + second, two(first, second).distance(), want);
     }
-    System.out.println(wrong == 0 ? pairs + " distances are as due" : wrong + " distances are not as due");
-    if (wrong != 0) System.exit(1);
-  }
-
-  private static int distance(String first, String second) {
-    TreeDiffer d = new TreeDiffer();
-    for (char c : first.toCharArray()) d.append(c);
-    d.read(0);
-    d.clearText();
-    for (char c : second.toCharArray()) d.append(c);
-    d.read(1);
-    return d.distance();
+    end();
   }
 
   private static final String[] CONTENTS = {"a", "a1", "b"};
@@ -58,20 +43,33 @@ public final class DistanceTest {
     return n;
   }
 
+  /** Each change can be taken back by another one, so the search goes on from both ends. */
   private static int fewestChanges(String first, String second) {
     int room = Math.max(size(first), size(second)) + 1;
-    Set<String> seen = new HashSet<>(List.of(first));
-    List<String> border = List.of(first);
-    for (int changes = 0; ; changes++) {
-      if (border.contains(second)) return changes;
-      List<String> next = new ArrayList<>();
-      for (String forest : border) {
-        for (String changed : changes(split(forest))) {
-          if (size(changed) <= room && seen.add(changed)) next.add(changed);
-        }
+    Set<String> seenFromFirst = new HashSet<>(List.of(first));
+    Set<String> seenFromSecond = new HashSet<>(List.of(second));
+    Set<String> fromFirst = Set.of(first);
+    Set<String> fromSecond = Set.of(second);
+    int changes = 0;
+    while (Collections.disjoint(fromFirst, fromSecond)) {
+      if (fromFirst.size() <= fromSecond.size()) {
+        fromFirst = oneChangeOn(fromFirst, seenFromFirst, room);
+      } else {
+        fromSecond = oneChangeOn(fromSecond, seenFromSecond, room);
       }
-      border = next;
+      changes++;
     }
+    return changes;
+  }
+
+  private static Set<String> oneChangeOn(Set<String> border, Set<String> seen, int room) {
+    Set<String> next = new HashSet<>();
+    for (String forest : border) {
+      for (String changed : changes(split(forest))) {
+        if (size(changed) <= room && seen.add(changed)) next.add(changed);
+      }
+    }
+    return next;
   }
 
   /** All forests that one change makes of a forest, whose trees are given. */

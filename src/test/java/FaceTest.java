@@ -54,6 +54,12 @@ public final class FaceTest {
       check(!Modifier.isPrivate(m.getModifiers()) || !open.contains(m.getName()), m + " bears a public name");
       check(m.getParameterCount() <= 7, m + " has too many parameters");
     }
+    for (Class<?> c : TreeDiffer.class.getDeclaredClasses()) {
+      for (Method m : c.getDeclaredMethods()) {
+        check(!open.contains(m.getName()), m + " bears a public name");
+        check(m.getParameterCount() <= 7, m + " has too many parameters");
+      }
+    }
   }
 
   private static void constants() throws IllegalAccessException {

@@ -1,11 +1,5 @@
 /** Each promise of the document by examples that were worked out by hand. */
-public final class PromisesTest {
-  private static final int BAD_INDEX = -11, BAD_VALUE = -12, NOT_POSSIBLE = -13, FULL = -14, NONE = -15;
-  private static final int UPDATE = 0, INSERT = 1, MOVE = 2, DELETE = 3;
-  private static final int LEAST = Integer.MIN_VALUE, MOST = Integer.MAX_VALUE;
-  private static int wrong = 0;
-  private static int asked = 0;
-
+public final class PromisesTest extends TestKit {
   public static void main(String[] args) {
     newObject();
     append();
@@ -43,78 +37,7 @@ public final class PromisesTest {
     restore();
     checksum();
     errorsChangeNothing();
-    System.out.println(wrong == 0 ? asked + " answers are as due" : wrong + " answers are not as due");
-    if (wrong != 0) System.exit(1);
-  }
-
-  private static void due(int promise, String call, long got, long want) {
-    asked++;
-    if (got != want) {
-      wrong++;
-      System.out.println("promise " + promise + ": " + call + " answered " + got + ", due is " + want);
-    }
-  }
-
-  private static void dueText(int promise, String call, String got, String want) {
-    asked++;
-    if (!got.equals(want)) {
-      wrong++;
-      System.out.println("promise " + promise + ": " + call + " gave " + got + ", due is " + want);
-    }
-  }
-
-  private static void type(TreeDiffer d, String text) {
-    d.clearText();
-    for (char c : text.toCharArray()) d.append(c);
-  }
-
-  private static int put(TreeDiffer d, int tree, String text) {
-    type(d, text);
-    return d.read(tree);
-  }
-
-  private static TreeDiffer two(String first, String second) {
-    TreeDiffer d = new TreeDiffer();
-    put(d, 0, first);
-    put(d, 1, second);
-    return d;
-  }
-
-  private static String shown(TreeDiffer d, int tree) {
-    int length = d.print(tree);
-    StringBuilder b = new StringBuilder();
-    for (int i = 0; i < length; i++) b.append((char) d.printed(i));
-    return b.toString();
-  }
-
-  /** The script in a short form: "I101 0 2 f3" inserts 101 below 0 at place 2 with label f, value 3. */
-  private static String script(TreeDiffer d) {
-    StringBuilder b = new StringBuilder();
-    for (int s = 0; s < d.steps(); s++) {
-      if (s > 0) b.append(", ");
-      int kind = d.step(s, 0);
-      b.append("UIMD".charAt(kind)).append(d.step(s, 1));
-      boolean hasPlace = kind == INSERT || kind == MOVE;
-      if (hasPlace) b.append(' ').append(d.step(s, 2)).append(' ').append(d.step(s, 3));
-      if (kind == INSERT) b.append(' ').append((char) ('a' + d.step(s, 4))).append(d.step(s, 5));
-      if (kind == UPDATE) b.append(' ').append(d.step(s, 5));
-      if (!hasPlace) due(18, "step of kind " + kind + ", 2 and 3", d.step(s, 2) + d.step(s, 3), 2 * NONE);
-      if (kind != INSERT) due(18, "step of kind " + kind + ", 4", d.step(s, 4), NONE);
-      if (kind == MOVE || kind == DELETE) due(18, "step of kind " + kind + ", 5", d.step(s, 5), NONE);
-    }
-    return b.toString();
-  }
-
-  private static String partners(TreeDiffer d) {
-    StringBuilder b = new StringBuilder();
-    for (int x = 0; x < d.nodes(0); x++) {
-      int y = d.partner(0, x);
-      if (y != NONE) {
-        b.append(x).append('-').append(y).append('/').append(d.phase(x)).append(' ');
-        due(14, "partner(1, " + y + ")", d.partner(1, y), x);
-      }
-    }
-    return b.toString().trim();
+    end();
   }
 
   private static void newObject() {
@@ -225,19 +148,6 @@ public final class PromisesTest {
     fault("a12(b3(c0) d(e(f45 g)) h)", NONE, NONE);
     fault("a12(b3(c0) d(e(f45 g)) h)x", 25, 0);
     fault("a(b0 c01)", 7, 1);
-  }
-
-  private static String star(int leaves) {
-    StringBuilder b = new StringBuilder("a(b");
-    for (int i = 1; i < leaves; i++) b.append(" b");
-    return b.append(')').toString();
-  }
-
-  private static String chain(int nodes) {
-    StringBuilder b = new StringBuilder("a");
-    for (int i = 1; i < nodes; i++) b.append("(a");
-    for (int i = 1; i < nodes; i++) b.append(')');
-    return b.toString();
   }
 
   private static void faultsOfTooManyNodes() {
