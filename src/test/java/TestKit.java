@@ -11,7 +11,7 @@ abstract class TestKit {
   static final int PROMISES = 30;
 
   private static final TreeSet<Integer> promisesTold = new TreeSet<>();
-  private static int sentences = 0;
+  private static final TreeSet<String> sentencesTold = new TreeSet<>();
   private static int asked = 0;
   private static int wrong = 0;
   private static int promise = 0;
@@ -24,7 +24,7 @@ abstract class TestKit {
   static void sentence(int ofPromise, String words) {
     promise = ofPromise;
     sentence = " (" + words + ")";
-    sentences++;
+    sentencesTold.add(ofPromise + " " + words);
     promisesTold.add(ofPromise);
     if (!document().contains(words)) wrongIs("is not in the document");
   }
@@ -75,7 +75,7 @@ abstract class TestKit {
   }
 
   static void end() {
-    String of = sentences == 0 ? "" : " to " + sentences + " sentences";
+    String of = sentencesTold.isEmpty() ? "" : " to " + sentencesTold.size() + " sentences";
     System.out.println(wrong == 0 ? asked + " answers" + of + " are as due" : wrong + " answers are not as due");
     if (wrong != 0) System.exit(1);
   }
