@@ -1,6 +1,7 @@
 import java.io.IOException;
 import java.nio.file.Files;
 import java.nio.file.Path;
+import java.util.BitSet;
 import java.util.TreeSet;
 
 /** What the tests share: trees from texts, pairs and scripts in a short form, and what is wrong. */
@@ -17,8 +18,9 @@ abstract class TestKit {
   private static int promise = 0;
   private static String sentence = "";
   private static String document = null;
+  private static final BitSet bytesTold = new BitSet();
 
-  // ---- what is due
+  // ---- the document
 
   /** Names the sentence of the document that the next answers belong to. */
   static void sentence(int ofPromise, String words) {
@@ -27,9 +29,42 @@ abstract class TestKit {
     sentencesTold.add(ofPromise + " " + words);
     promisesTold.add(ofPromise);
     if (!document().contains(words)) wrongIs("is not in the document");
+    // The same words may stand in several promises: each of them needs a test of its own.
+    int start = document().indexOf(title(ofPromise));
+    int end = endOfSection(start);
+    if (start >= 0 && document().substring(start, end).contains(words)) {
+      tell(words, start, end);
+    } else {
+      tell(words, 0, document().indexOf(title(1)));
+    }
   }
 
-  private static String document() {
+  /** Words of the document that ask for nothing. */
+  static void asksForNothing(String words) {
+    promise = 0;
+    sentence = " (" + words + ")";
+    if (!document().contains(words)) wrongIs("is not in the document");
+    tell(words, 0, document().length());
+  }
+
+  private static void tell(String words, int from, int end) {
+    int at = document().indexOf(words, from);
+    while (at >= 0 && at + words.length() <= end) {
+      bytesTold.set(at, at + words.length());
+      at = document().indexOf(words, at + 1);
+    }
+  }
+
+  static String title(int ofPromise) {
+    return "\n## Promise " + ofPromise + ": ";
+  }
+
+  private static int endOfSection(int start) {
+    int end = document().indexOf("\n## ", start + 1);
+    return end < 0 ? document().length() : end;
+  }
+
+  static String document() {
     if (document == null) {
       try {
         document = Files.readString(Path.of("../shared/DOC.md"));
@@ -40,9 +75,25 @@ abstract class TestKit {
     return document;
   }
 
+  /** A sentence that no test quotes would go untested without a word. */
+  static void everySentenceIsTold() {
+    promise = 0;
+    sentence = "";
+    int at = bytesTold.nextClearBit(0);
+    while (at < document().length()) {
+      int end = bytesTold.nextSetBit(at);
+      if (end < 0) end = document().length();
+      String words = document().substring(at, end);
+      if (words.matches("(?s).*[A-Za-z0-9].*")) wrongIs("no test is told for: " + words.trim());
+      at = bytesTold.nextClearBit(end);
+    }
+  }
+
+  // ---- what is due
+
   private static void wrongIs(String what) {
     wrong++;
-    System.out.println("promise " + promise + sentence + ": " + what);
+    System.out.println((promise == 0 ? "no promise" : "promise " + promise) + sentence + ": " + what);
   }
 
   static void due(String call, long got, long want) {
